@@ -15,6 +15,7 @@ public final class ParishesTest {
         joinKeepsDebtsToOthers();
         joinPassesLordsOnEverywhere();
         undoRestoresAll();
+        undoRestoresPlacesAndCells();
         undoKeepsFiveStates();
         errorsAreNotRecorded();
         answers.end();
@@ -254,6 +255,28 @@ public final class ParishesTest {
         grid.add(0, 0, 1);
         answers.due("9: undo()", 0, grid.undo());
         answers.due("9: count(1)", 7, grid.count(1));
+    }
+
+    private static void undoRestoresPlacesAndCells() {
+        TitheGrid grid = threeInTheSecond(2, 9, 1, 5);
+        grid.move(4, 41, 50);
+        answers.due("9: point(4, 4)", 3, grid.point(4, 4));
+        answers.due("9: undo()", 4, grid.undo());
+        answers.due("9: point(4, 0)", 40, grid.point(4, 0));
+        answers.due("9: point(4, 1)", 0, grid.point(4, 1));
+        answers.due("9: point(4, 4)", 1, grid.point(4, 4));
+        grid = new TitheGrid();
+        for (int point = 0; point < 5; point++) {
+            grid.add(63, 63, 1);
+        }
+        answers.due("9: parish(0, 1)", 60, grid.parish(0, 1));
+        answers.due("9: undo()", 4, grid.undo());
+        for (int what = 0; what < 3; what++) {
+            answers.due("9: parish(0, " + what + ")", 0, grid.parish(0, what));
+        }
+        answers.due("9: at(0, 0)", 0, grid.at(0, 0));
+        answers.due("9: count(3)", 1, grid.count(3));
+        answers.due("9: parish(1, 0)", -1, grid.parish(1, 0));
     }
 
     private static void undoKeepsFiveStates() {
