@@ -13,22 +13,46 @@ public final class LongRunsTest {
 
     public static void main(String[] args) {
         for (run = 0; run < RUNS && answers.wrong() < 10; run++) {
-            seed = 1000003L * run + 17;
-            grid = new TitheGrid();
-            plain = new PlainMap();
-            boolean readsAll = run % 20 == 0;
+            begin();
             for (int call = 0; call < CALLS; call++) {
                 if (number(100) < 55) {
                     act();
                 } else {
                     look();
                 }
-                if (readsAll && call % 16 == 15) {
-                    lookAtAll();
-                }
+            }
+            if (run % 7 == 0) {
+                lookAtAll(10 + run % 100);
             }
         }
         answers.end();
+    }
+
+    private static void begin() {
+        seed = 1000003L * run + 17;
+        grid = new TitheGrid();
+        plain = new PlainMap();
+    }
+
+    private static void actAnew(int actions) {
+        begin();
+        for (int action = 0; action < actions; action++) {
+            act();
+        }
+    }
+
+    private static void lookAtAll(int actions) {
+        int[] got = Question.answers(() -> {
+            actAnew(actions);
+            return Looking.into(grid);
+        });
+        int[] want = Question.answers(() -> {
+            actAnew(actions);
+            return plain;
+        });
+        for (int index = 0; index < want.length; index++) {
+            due("behind " + actions + " actions, " + Question.ALL.get(index).call(), want[index], got[index]);
+        }
     }
 
     private static int number(int bound) {
@@ -115,29 +139,6 @@ public final class LongRunsTest {
             case 8 -> due("payable(" + a + ")", plain.payable(a), grid.payable(a));
             case 9 -> due("cellsWith(" + what + ")", plain.cellsWith(what), grid.cellsWith(what));
             default -> due("joinable()", plain.joinable(), grid.joinable());
-        }
-    }
-
-    private static void lookAtAll() {
-        for (int what = 0; what <= 10; what++) {
-            due("count(" + what + ")", plain.count(what), grid.count(what));
-        }
-        for (int number = 0; number < 40; number++) {
-            for (int what = 0; what < 8; what++) {
-                due("point(" + number + ", " + what + ")", plain.point(number, what), grid.point(number, what));
-                due("parish(" + number + ", " + what + ")", plain.parish(number, what), grid.parish(number, what));
-            }
-            for (int creditor = 0; creditor < 40; creditor++) {
-                due("debt(" + number + ", " + creditor + ")", plain.debt(number, creditor), grid.debt(number, creditor));
-            }
-            due("inOrder(" + number + ")", plain.inOrder(number), grid.inOrder(number));
-            due("payable(" + number + ")", plain.payable(number), grid.payable(number));
-        }
-        for (int x = 0; x < 64; x += 4) {
-            for (int y = 0; y < 64; y += 4) {
-                due("at(" + x + ", " + y + ")", plain.at(x, y), grid.at(x, y));
-                due("nearest(" + x + ", " + y + ")", plain.nearest(x, y), grid.nearest(x, y));
-            }
         }
     }
 }

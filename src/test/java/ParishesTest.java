@@ -49,22 +49,8 @@ public final class ParishesTest {
         answers.due("6: count(10)", 3, grid.count(10));
     }
 
-    /** The parish 0 keeps the quarter 0 with four points; 1 has three points of these wealths and owes to 0. */
-    private static TitheGrid threeInTheSecond(int tithe, int wealth4, int wealth5, int wealth6) {
-        TitheGrid grid = new TitheGrid();
-        grid.setCrowd(6);
-        grid.setTithe(tithe);
-        for (int point = 0; point < 4; point++) {
-            grid.add(point, 0, 50);
-        }
-        grid.add(40, 0, wealth4);
-        grid.add(40, 10, wealth5);
-        grid.add(40, 20, wealth6);
-        return grid;
-    }
-
     private static void payGivesThePoorestFirst() {
-        TitheGrid grid = threeInTheSecond(2, 9, 1, 5);
+        TitheGrid grid = Villages.threeInTheSecond(2, 9, 1, 5);
         answers.due("7: debt(1, 0)", 2, grid.debt(1, 0));
         answers.due("18: payable(1)", 2, grid.payable(1));
         answers.due("7: pay(1)", 2, grid.pay(1));
@@ -79,7 +65,7 @@ public final class ParishesTest {
     }
 
     private static void payGivesTheSmallestNumberOfEquals() {
-        TitheGrid grid = threeInTheSecond(3, 7, 5, 5);
+        TitheGrid grid = Villages.threeInTheSecond(3, 7, 5, 5);
         answers.due("7: pay(1)", 1, grid.pay(1));
         answers.due("7: point(4, 4)", 1, grid.point(4, 4));
         answers.due("7: point(5, 4)", 0, grid.point(5, 4));
@@ -87,7 +73,7 @@ public final class ParishesTest {
     }
 
     private static void payIsBoundByPoints() {
-        TitheGrid grid = threeInTheSecond(1, 100, 100, 100);
+        TitheGrid grid = Villages.threeInTheSecond(1, 100, 100, 100);
         answers.due("7: debt(1, 0)", 3, grid.debt(1, 0));
         grid.remove(4);
         answers.due("18: payable(1)", 2, grid.payable(1));
@@ -101,21 +87,8 @@ public final class ParishesTest {
         answers.due("7: point(8, 4)", 0, grid.point(8, 4));
     }
 
-    /** The parish 1 owes to 0 still, and is lord of a point in the cell of 4, which has paid to 1. */
-    private static TitheGrid aPointOfTheSecondElsewhere() {
-        TitheGrid grid = new TitheGrid();
-        grid.setCrowd(2);
-        grid.setTithe(1);
-        grid.add(0, 0, 50);
-        grid.add(1, 31, 50);
-        grid.add(33, 0, 30);
-        grid.add(60, 0, 20);
-        grid.add(33, 1, 30);
-        return grid;
-    }
-
     private static void payGivesOnlyOwnPointsInTheCell() {
-        TitheGrid grid = aPointOfTheSecondElsewhere();
+        TitheGrid grid = Villages.theSecondIsSplit();
         answers.due("7: debt(1, 0)", 1, grid.debt(1, 0));
         answers.due("7: debt(4, 1)", 1, grid.debt(4, 1));
         answers.due("7: pay(4)", 1, grid.pay(4));
@@ -144,7 +117,7 @@ public final class ParishesTest {
 
     private static void joinGivesTheWholeCell() {
         for (int asked = 0; asked < 4; asked++) {
-            TitheGrid grid = threeInTheSecond(2, 9, 1, 5);
+            TitheGrid grid = Villages.threeInTheSecond(2, 9, 1, 5);
             grid.setCrowd(7);
             answers.due("8: join(" + asked + ")", 0, grid.join(asked));
             answers.due("8: count(2)", 1, grid.count(2));
@@ -174,7 +147,7 @@ public final class ParishesTest {
         TitheGrid grid = new TitheGrid();
         answers.due("8: join(0) of the whole map", -2, grid.join(0));
         answers.due("8: join(1)", -1, grid.join(1));
-        grid = threeInTheSecond(2, 9, 1, 5);
+        grid = Villages.threeInTheSecond(2, 9, 1, 5);
         answers.due("8: join(0) with more points than the crowd", -2, grid.join(0));
         answers.due("8: count(10)", 5, grid.count(10));
         grid.setCrowd(3);
@@ -194,7 +167,7 @@ public final class ParishesTest {
 
     /** The parish 1 is split into 1, 4, 5 and 6; when it has joined them, its own debt to 0 stands. */
     private static void joinKeepsDebtsToOthers() {
-        TitheGrid grid = aPointOfTheSecondElsewhere();
+        TitheGrid grid = Villages.theSecondIsSplit();
         answers.due("8: count(6)", 2, grid.count(6));
         grid.remove(4);
         answers.due("8: join(4)", 1, grid.join(4));
@@ -230,7 +203,7 @@ public final class ParishesTest {
     }
 
     private static void undoRestoresAll() {
-        TitheGrid grid = threeInTheSecond(2, 9, 1, 5);
+        TitheGrid grid = Villages.threeInTheSecond(2, 9, 1, 5);
         grid.pay(1);
         grid.setTithe(7);
         grid.setCrowd(7);
@@ -258,7 +231,7 @@ public final class ParishesTest {
     }
 
     private static void undoRestoresPlacesAndCells() {
-        TitheGrid grid = threeInTheSecond(2, 9, 1, 5);
+        TitheGrid grid = Villages.threeInTheSecond(2, 9, 1, 5);
         grid.move(4, 41, 50);
         answers.due("9: point(4, 4)", 3, grid.point(4, 4));
         answers.due("9: undo()", 4, grid.undo());

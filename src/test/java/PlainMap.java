@@ -6,7 +6,7 @@ import java.util.Map;
 import java.util.TreeMap;
 
 /** The document once more, by a tree of cells and by maps, to compare TitheGrid with in long runs. */
-final class PlainMap {
+final class PlainMap implements Looking {
     private static final int WRONG = -1;
     private static final int STATE = -2;
     private static final int ROOM = -3;
@@ -379,7 +379,8 @@ final class PlainMap {
         return past.size();
     }
 
-    int count(int what) {
+    @Override
+    public int count(int what) {
         int there = 0;
         int elsewhere = 0;
         int wealth = 0;
@@ -405,7 +406,8 @@ final class PlainMap {
         return out(what, 0, 10) ? WRONG : answers[what];
     }
 
-    int point(int point, int what) {
+    @Override
+    public int point(int point, int what) {
         Dot dot = dot(point);
         if (dot == null || out(what, 0, 4)) {
             return WRONG;
@@ -413,7 +415,8 @@ final class PlainMap {
         return new int[] {dot.x, dot.y, dot.wealth, leafAt(dot.x, dot.y).parish, dot.lord}[what];
     }
 
-    int parish(int parish, int what) {
+    @Override
+    public int parish(int parish, int what) {
         Cell cell = leafOf(parish);
         if (cell == null || out(what, 0, 7)) {
             return WRONG;
@@ -435,7 +438,8 @@ final class PlainMap {
         return new int[] {cell.x, cell.y, cell.scale, dotsIn(cell), under, wealth, owes, gets}[what];
     }
 
-    int debt(int parish, int creditor) {
+    @Override
+    public int debt(int parish, int creditor) {
         if (leafOf(parish) == null || leafOf(creditor) == null) {
             return WRONG;
         }
@@ -443,11 +447,13 @@ final class PlainMap {
         return row == null ? 0 : row.getOrDefault(creditor, 0);
     }
 
-    int at(int x, int y) {
+    @Override
+    public int at(int x, int y) {
         return out(x, 0, 63) || out(y, 0, 63) ? WRONG : leafAt(x, y).parish;
     }
 
-    int range(int x, int y, int toX, int toY, int what) {
+    @Override
+    public int range(int x, int y, int toX, int toY, int what) {
         if (out(x, 0, 63) || out(y, 0, 63) || out(toX, x, 63) || out(toY, y, 63) || out(what, 0, 3)) {
             return WRONG;
         }
@@ -477,7 +483,8 @@ final class PlainMap {
         return new int[] {number, wealth, parishes, richest}[what];
     }
 
-    int nearest(int x, int y) {
+    @Override
+    public int nearest(int x, int y) {
         if (out(x, 0, 63) || out(y, 0, 63)) {
             return WRONG;
         }
@@ -492,14 +499,16 @@ final class PlainMap {
         return NONE;
     }
 
-    int inOrder(int index) {
+    @Override
+    public int inOrder(int index) {
         if (index < 0) {
             return WRONG;
         }
         return index < leaves().size() ? leaves().get(index).parish : NONE;
     }
 
-    int payable(int parish) {
+    @Override
+    public int payable(int parish) {
         if (leafOf(parish) == null) {
             return WRONG;
         }
@@ -510,7 +519,8 @@ final class PlainMap {
         return given;
     }
 
-    int cellsWith(int crowd) {
+    @Override
+    public int cellsWith(int crowd) {
         return out(crowd, 2, 9) ? WRONG : divided(new Cell(0, 0, 0, 0), crowd);
     }
 
@@ -525,7 +535,8 @@ final class PlainMap {
         return cells;
     }
 
-    int joinable() {
+    @Override
+    public int joinable() {
         for (int parish = 0; parish < 40; parish++) {
             if (joinableAround(parish) != null) {
                 return parish;

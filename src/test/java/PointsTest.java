@@ -146,20 +146,8 @@ public final class PointsTest {
         answers.due("3: count(10) behind wrong removes", 2, grid.count(10));
     }
 
-    /** Parishes 0 to 3 in the quarters 0 to 3, a point in each; 1, 2 and 3 owe a point each to 0. */
-    private static TitheGrid fourQuarters() {
-        TitheGrid grid = new TitheGrid();
-        grid.setCrowd(3);
-        grid.setTithe(1);
-        grid.add(1, 1, 9);
-        grid.add(40, 2, 9);
-        grid.add(2, 33, 9);
-        grid.add(50, 50, 1);
-        return grid;
-    }
-
     private static void moveChangesPlaceAndLord() {
-        TitheGrid grid = fourQuarters();
+        TitheGrid grid = Villages.fourQuarters();
         answers.due("4: move(0, 31, 31)", 0, grid.move(0, 31, 31));
         answers.due("4: point(0, 0)", 31, grid.point(0, 0));
         answers.due("4: move(0, 32, 31)", 1, grid.move(0, 32, 31));
@@ -177,7 +165,7 @@ public final class PointsTest {
     }
 
     private static void moveLeavesAnotherLord() {
-        TitheGrid grid = fourQuarters();
+        TitheGrid grid = Villages.fourQuarters();
         answers.due("4: pay(1)", 1, grid.pay(1));
         answers.due("4: point(1, 4)", 0, grid.point(1, 4));
         answers.due("4: move(1, 2, 40)", 0, grid.move(1, 2, 40));
@@ -190,7 +178,7 @@ public final class PointsTest {
     }
 
     private static void moveAnswersForBeforeTheSplit() {
-        TitheGrid grid = fourQuarters();
+        TitheGrid grid = Villages.fourQuarters();
         grid.pay(1);
         grid.add(20, 1, 5);
         grid.add(1, 20, 5);

@@ -77,13 +77,7 @@ public final class SplitTest {
 
     /** Parishes 0 to 3 in the quarters 0 to 3, a point in each, and all of them pay to 0. */
     private static TitheGrid allPayToTheFirst() {
-        TitheGrid grid = new TitheGrid();
-        grid.setCrowd(3);
-        grid.setTithe(1);
-        grid.add(1, 1, 9);
-        grid.add(40, 2, 9);
-        grid.add(2, 33, 9);
-        grid.add(50, 50, 1);
+        TitheGrid grid = Villages.fourQuarters();
         grid.pay(1);
         grid.pay(2);
         grid.pay(3);
