@@ -846,7 +846,10 @@ public final class TitheGrid {
         }
     }
 
-    /** The states before the latest actions, the latest first; the ones behind the number are spare. */
+    /**
+     * The states before the latest actions, the latest first; the ones behind the number are spare. The constructor
+     * leaves none of them null, and no call does: the tests for null stand there so that no use rests on that.
+     */
     private static final class History {
         private int number;
         private final State[] states = new State[MOST_STATES];
@@ -867,6 +870,9 @@ public final class TitheGrid {
 
         void keep(State state) {
             State reused = states[MOST_STATES - 1];
+            if (reused == null) {
+                return;
+            }
             for (int index = MOST_STATES - 1; index > 0; index--) {
                 states[index] = states[index - 1];
             }
@@ -877,6 +883,9 @@ public final class TitheGrid {
 
         void restoreInto(State state) {
             State latest = states[0];
+            if (latest == null) {
+                return;
+            }
             for (int index = 0; index < MOST_STATES - 1; index++) {
                 states[index] = states[index + 1];
             }

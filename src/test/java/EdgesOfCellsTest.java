@@ -19,6 +19,7 @@ public final class EdgesOfCellsTest {
         ofTwoFullestTheFirstIsKept();
         ofThreeAndFourFullestTheFirstIsKept();
         onePointMoreIsKept();
+        pointsNextToTheCellAreNotCounted();
         debtsForEachTithe();
         theFirstTitheIs3();
         parishesBelow38AreSplitStill();
@@ -236,6 +237,38 @@ public final class EdgesOfCellsTest {
                 dueKept("two in " + first + ", three in " + second, splitOf(4, first, second, first, second, second), second);
             }
         }
+    }
+
+    /** "the quarter in which most points lie": of the cell's own, however many lie in the cells next to it */
+    private static void pointsNextToTheCellAreNotCounted() {
+        for (int split = 0; split < 4; split++) {
+            for (int crowded = 0; crowded < 4; crowded++) {
+                if (crowded != split) {
+                    dueKeptBeside(split, crowded);
+                }
+            }
+        }
+    }
+
+    /** Three points in the far corner of a quarter of the map, and six where another one touches it. */
+    private static void dueKeptBeside(int split, int crowded) {
+        int farX = split % 2 * 63;
+        int farY = split / 2 * 63;
+        TitheGrid grid = new TitheGrid();
+        grid.setCrowd(2);
+        for (int point = 0; point < 6; point++) {
+            grid.add(31 + crowded % 2, 31 + crowded / 2, 1);
+            answers.due("at the middle", 0, grid.at(31 + crowded % 2, 31 + crowded / 2));
+        }
+        int parish = grid.at(farX, farY);
+        String call = "six points in the quarter " + crowded + ", three in " + split;
+        answers.due(call + ", scale before", 1, grid.parish(parish, 2));
+        for (int point = 0; point < 3; point++) {
+            grid.add(farX, farY, 1);
+        }
+        dueCell(call, grid, parish, split % 2 * 60, split / 2 * 60, 4);
+        answers.due(call + ", points of the one that is kept", 3, grid.parish(parish, 3));
+        answers.due(call + ", debts to it", 0, grid.parish(parish, 7));
     }
 
     /** Five points in the quarter 0, which is kept, and some in the quarter 1, which 1 is founded for. */

@@ -75,7 +75,9 @@ public final class FaceTest {
     }
 
     private static void classesInside() {
+        answers.dueTrue("twelve classes at most", TitheGrid.class.getDeclaredClasses().length < 12);
         for (Class<?> inside : TitheGrid.class.getDeclaredClasses()) {
+            answers.dueTrue(inside + " has twenty fields at most", inside.getDeclaredFields().length <= 20);
             int modifiers = inside.getModifiers();
             answers.dueTrue(inside + " is static", Modifier.isStatic(modifiers));
             answers.dueTrue(inside + " is not public", !Modifier.isPublic(modifiers) && !Modifier.isProtected(modifiers));
